@@ -107,8 +107,9 @@ public final class PromisesTest {
             SegmentSweep s = with(o);
             Due.is("2: touches", s.add(at(o[2], o[3]), at(o[2] + dx, o[3] + dy)), 1);
             Due.is("2: touches before", s.add(at(o[0] - dx, o[1] - dy), at(o[0], o[1])), 2);
-            Due.is("2: apart in one line", s.add(at(o[2] + 2 * dx, o[3] + 2 * dy), at(o[2] + 3 * dx, o[3] + 3 * dy)), 3);
-            Due.is("2: overlaps a later one", s.add(at(o[2] + dx, o[3] + dy), at(o[2] + 3 * dx, o[3] + 3 * dy)), REFUSED);
+            int far = at(o[2] + 3 * dx, o[3] + 3 * dy);
+            Due.is("2: apart in one line", s.add(at(o[2] + 2 * dx, o[3] + 2 * dy), far), 3);
+            Due.is("2: overlaps a later one", s.add(at(o[2] + dx, o[3] + dy), far), REFUSED);
         }
     }
 
@@ -213,6 +214,12 @@ public final class PromisesTest {
         s.remove(1);
         Due.is("5: one taken away", s.meet(0, 1), false);
         Due.is("5: taken away, itself", s.meet(1, 1), false);
+        s.add(at(0, 20), at(9, 20));
+        Due.is("5: the number's new segment is elsewhere", s.meet(0, 1), false);
+        SegmentSweep moved = with(0, 0, 5, 5, 0, 5, 5, 0);
+        moved.remove(1);
+        moved.add(at(9, 9), at(9, 12));
+        Due.is("5: met once, no longer", moved.meet(0, 1), false);
         SegmentSweep near = with(0, 0, 20, 19, 10, 10, 20, 20);
         Due.is("5: near but apart", near.meet(0, 1), false);
         SegmentSweep lines = with(0, 0, 4, 4, 10, 0, 6, 4, 0, 10, 10, 10);
@@ -263,6 +270,8 @@ public final class PromisesTest {
         isAt("7: turned ends", with(20, 19, 0, 0, 19, 0, 0, 20), 0, 7600, 761, 7220, 761);
         isAt("7: other order", with(19, 0, 0, 20, 0, 0, 20, 19), 0, 7600, 761, 7220, 761);
         isAt("7: end to end", with(2, 1, 4, 2, 6, 3, 4, 2), 0, 4, 1, 2, 1);
+        isAt("7: end to end, the later one first", with(6, 3, 4, 2, 2, 1, 4, 2), 0, 4, 1, 2, 1);
+        isAt("7: end to end, upright", with(7, 9, 7, 6, 7, 6, 7, 0), 0, 7, 1, 6, 1);
     }
 
     private static void promises7And8Order() {
@@ -433,6 +442,9 @@ public final class PromisesTest {
         Due.is("14: three through one point", with(0, 0, 10, 10, 0, 10, 10, 0, 5, 0, 5, 10).pieces(), 6);
         Due.is("14: cut where another two end", with(0, 5, 10, 5, 5, 5, 5, 9, 5, 5, 6, 0).pieces(), 4);
         Due.is("14: one cut twice", with(0, 5, 10, 5, 3, 0, 3, 9, 7, 0, 7, 9).pieces(), 7);
+        // The tops alone, without their bottoms, would be an end: (5/2, 1) is not (5, 1).
+        Due.is("14: x like an end but for its bottom", with(0, 1, 5, 1, 2, 0, 3, 2).pieces(), 4);
+        Due.is("14: y like an end but for its bottom", with(1, 0, 1, 5, 0, 2, 2, 3).pieces(), 4);
         SegmentSweep s = with(0, 0, 5, 5, 0, 5, 5, 0);
         s.remove(0);
         Due.is("14: whole again", s.pieces(), 1);
@@ -480,8 +492,10 @@ public final class PromisesTest {
         Due.is("16: the rim is open", s.faces(), 1);
         int[] nested = {0, 0, 20, 0, 20, 0, 0, 20, 0, 20, 0, 0, 2, 2, 6, 2, 6, 2, 2, 6, 2, 6, 2, 2};
         Due.is("16: a triangle in a triangle", with(nested).faces(), 2);
-        Due.is("16: two apart", with(0, 0, 4, 0, 4, 0, 0, 4, 0, 4, 0, 0, 9, 9, 9, 5, 9, 5, 5, 9, 5, 9, 9, 9).faces(), 2);
-        Due.is("16: two at one corner", with(4, 4, 4, 0, 4, 0, 0, 4, 0, 4, 4, 4, 4, 4, 8, 4, 8, 4, 4, 8, 4, 8, 4, 4).faces(), 2);
+        int[] apart = {0, 0, 4, 0, 4, 0, 0, 4, 0, 4, 0, 0, 9, 9, 9, 5, 9, 5, 5, 9, 5, 9, 9, 9};
+        Due.is("16: two apart", with(apart).faces(), 2);
+        int[] corner = {4, 4, 4, 0, 4, 0, 0, 4, 0, 4, 4, 4, 4, 4, 8, 4, 8, 4, 4, 8, 4, 8, 4, 4};
+        Due.is("16: two at one corner", with(corner).faces(), 2);
     }
 
     private static void promise16Grid() {
