@@ -301,7 +301,7 @@ public final class SegmentSweep {
         }
         if (at < meetingCount && orderAgainstCommon(at) == 0) {
             passing[at] |= pair;
-        } else {
+        } else if (meetingCount < MOST_MEETINGS) {
             makeRoom(at);
             storeCommonPoint(at);
             passing[at] = pair;
@@ -327,7 +327,6 @@ public final class SegmentSweep {
     }
 
     private void storeCommonPoint(int at) {
-        // The bottom is at least 1, so neither divisor is 0.
         int divisorX = commonDivisor(commonX, commonBottom);
         int divisorY = commonDivisor(commonY, commonBottom);
         topX[at] = commonX / divisorX;
@@ -336,6 +335,7 @@ public final class SegmentSweep {
         bottomY[at] = commonBottom / divisorY;
     }
 
+    /** At least 1, so that one may divide by it. */
     private static int commonDivisor(int a, int b) {
         int greater = a;
         int lesser = b;
@@ -344,7 +344,7 @@ public final class SegmentSweep {
             greater = lesser;
             lesser = rest;
         }
-        return greater;
+        return greater < 1 ? 1 : greater;
     }
 
     /** Looks up from the point when direction is 1, down when it is -1. */

@@ -1,16 +1,5 @@
 /** For each promise: ordinary inputs, the edges that the document names, and wrong inputs. */
-public final class PromisesTest {
-    private static final int BAD = SegmentSweep.BAD;
-    private static final int FULL = SegmentSweep.FULL;
-    private static final int REFUSED = SegmentSweep.REFUSED;
-    private static final int LEAST = Integer.MIN_VALUE;
-    private static final int MOST = Integer.MAX_VALUE;
-    private static final int[] NO_POINTS = {
-        -1, -32, LEAST, MOST, 21, 31, 32 * 20 + 21, 32 * 21, 32 * 21 + 20, 32 * 31, 1024, 65536, LEAST + 33
-    };
-    private static final int[] NO_SEGMENTS = {-1, 10, 31, 32, 33, 64, LEAST, MOST, -32};
-    private static final int[] NO_MEETINGS = {-1, 45, 46, 1000, LEAST, MOST};
-
+public final class PromisesTest extends Drawings {
     public static void main(String[] args) {
         promise1();
         promise2BadPoints();
@@ -35,19 +24,6 @@ public final class PromisesTest {
         promise16();
         promise16Grid();
         Due.end();
-    }
-
-    private static int at(int x, int y) {
-        return x + 32 * y;
-    }
-
-    /** An object with a segment for each four numbers: x and y of one end, x and y of the other one. */
-    private static SegmentSweep with(int... ends) {
-        SegmentSweep s = new SegmentSweep();
-        for (int i = 0; i < ends.length; i += 4) {
-            Due.is("with, segment " + i / 4, s.add(at(ends[i], ends[i + 1]), at(ends[i + 2], ends[i + 3])), i / 4);
-        }
-        return s;
     }
 
     private static void isEmpty(String when, SegmentSweep s) {
@@ -122,17 +98,8 @@ public final class PromisesTest {
         Due.is("2: nearly in line", s.add(at(0, 5), at(20, 4)), 5);
     }
 
-    /** Ten segments, y = 0 .. 9, each from x = 0 to x = 4. */
-    private static SegmentSweep ten() {
-        SegmentSweep s = new SegmentSweep();
-        for (int k = 0; k < 10; k++) {
-            Due.is("ten: " + k, s.add(at(0, k), at(4, k)), k);
-        }
-        return s;
-    }
-
     private static void promise2FullAndOrder() {
-        SegmentSweep s = ten();
+        SegmentSweep s = levels(10);
         Due.is("2: full", s.add(at(0, 15), at(4, 15)), FULL);
         Due.is("2: full, touching", s.add(at(4, 9), at(8, 9)), FULL);
         Due.is("2: refused before full", s.add(at(2, 9), at(8, 9)), REFUSED);
@@ -146,7 +113,7 @@ public final class PromisesTest {
     }
 
     private static void promise2LeastNumber() {
-        SegmentSweep s = ten();
+        SegmentSweep s = levels(10);
         for (int k : new int[] {7, 2, 9, 0}) {
             s.remove(k);
         }
@@ -235,26 +202,12 @@ public final class PromisesTest {
         Due.is("6: end to end in one line", with(0, 0, 4, 2, 4, 2, 8, 4).meetings(), 1);
         Due.is("6: end to end, upright", with(3, 9, 3, 4, 3, 4, 3, 1).meetings(), 1);
         Due.is("6: a gap in one line", with(0, 0, 4, 2, 6, 3, 8, 4).meetings(), 0);
-        SegmentSweep grid = new SegmentSweep();
-        for (int i = 0; i < 5; i++) {
-            grid.add(at(0, 2 * i + 1), at(20, 2 * i + 1));
-            grid.add(at(2 * i + 1, 0), at(2 * i + 1, 20));
-        }
+        SegmentSweep grid = grid();
         Due.is("6: five by five", grid.meetings(), 25);
-        SegmentSweep all = new SegmentSweep();
-        for (int i = 1; i <= 10; i++) {
-            all.add(at(i, 0), at(0, 11 - i));
-        }
+        SegmentSweep all = mostMeetings();
         Due.is("6: each pair for itself", all.meetings(), 45);
         Due.is("6: the last one has an x", all.bottom(44, 0) >= 1, true);
         Due.is("6: none after the last one", all.top(45, 0), BAD);
-    }
-
-    private static void isAt(String what, SegmentSweep s, int i, int... fractions) {
-        Due.is(what + ": top x", s.top(i, 0), fractions[0]);
-        Due.is(what + ": bottom x", s.bottom(i, 0), fractions[1]);
-        Due.is(what + ": top y", s.top(i, 1), fractions[2]);
-        Due.is(what + ": bottom y", s.bottom(i, 1), fractions[3]);
     }
 
     private static void promises7And8() {
@@ -309,7 +262,7 @@ public final class PromisesTest {
         }
         Due.is("7: top of 1", s.top(1, 0), BAD);
         Due.is("8: bottom of 1", s.bottom(1, 0), BAD);
-        for (int axis : new int[] {-1, 2, 3, LEAST, MOST}) {
+        for (int axis : NO_AXES) {
             Due.is("7: top, axis " + axis, s.top(0, axis), BAD);
             Due.is("8: bottom, axis " + axis, s.bottom(0, axis), BAD);
             Due.is("7: top of none, axis " + axis, s.top(1, axis), BAD);
@@ -333,10 +286,7 @@ public final class PromisesTest {
         }
         s.remove(0);
         Due.is("9: without 0", s.through(0), 14);
-        SegmentSweep star = new SegmentSweep();
-        for (int k = 0; k < 10; k++) {
-            star.add(at(10, 10), k < 5 ? at(2 * k, 0) : at(20, 2 * k));
-        }
+        SegmentSweep star = star();
         Due.is("9: all ten", star.through(0), 1023);
         star.remove(9);
         Due.is("9: nine", star.through(0), 511);
@@ -448,12 +398,12 @@ public final class PromisesTest {
         SegmentSweep s = with(0, 0, 5, 5, 0, 5, 5, 0);
         s.remove(0);
         Due.is("14: whole again", s.pieces(), 1);
-        Due.is("14: ten apart", ten().pieces(), 10);
+        Due.is("14: ten apart", levels(10).pieces(), 10);
     }
 
     private static void promise15() {
         Due.is("15: one alone", with(0, 0, 9, 9).groups(), 1);
-        Due.is("15: ten apart", ten().groups(), 10);
+        Due.is("15: ten apart", levels(10).groups(), 10);
         SegmentSweep chain = new SegmentSweep();
         // Neighbours in the chain have numbers far from each other.
         for (int i : new int[] {0, 2, 4, 6, 8, 9, 7, 5, 3, 1}) {
@@ -499,20 +449,13 @@ public final class PromisesTest {
     }
 
     private static void promise16Grid() {
-        SegmentSweep grid = new SegmentSweep();
-        for (int i = 0; i < 5; i++) {
-            grid.add(at(0, 2 * i + 1), at(20, 2 * i + 1));
-            grid.add(at(2 * i + 1, 0), at(2 * i + 1, 20));
-        }
+        SegmentSweep grid = grid();
         Due.is("16: five by five", grid.faces(), 16);
         Due.is("14: five by five", grid.pieces(), 60);
         Due.is("15: five by five", grid.groups(), 1);
         grid.remove(4);
         Due.is("16: four by five", grid.faces(), 12);
-        SegmentSweep all = new SegmentSweep();
-        for (int i = 1; i <= 10; i++) {
-            all.add(at(i, 0), at(0, 11 - i));
-        }
+        SegmentSweep all = mostMeetings();
         // Ten lines in general place part the plane into 36 bounded faces and 100 pieces; all crossings lie inside.
         Due.is("16: ten in general place", all.faces(), 36);
         Due.is("14: ten in general place", all.pieces(), 100);

@@ -22,6 +22,7 @@ public final class PublicFaceTest {
         Due.is("nested classes", SegmentSweep.class.getDeclaredClasses().length, 0);
         checkMembers();
         checkFields();
+        checkPrivateNames();
         Due.end();
     }
 
@@ -63,6 +64,14 @@ public final class PublicFaceTest {
             Class<?> item = type.isArray() ? type.getComponentType() : type;
             boolean fits = item.isPrimitive() && item != float.class && item != double.class;
             Due.is(f + " has an allowed type", fits, true);
+        }
+    }
+
+    /** Rule 1 of the language: no private method bears the name of a public one. */
+    private static void checkPrivateNames() {
+        for (Method m : SegmentSweep.class.getDeclaredMethods()) {
+            boolean isFree = FACE.stream().noneMatch(member -> member.contains(" " + m.getName() + "("));
+            Due.is(m + " is public or has a name of its own", Modifier.isPublic(m.getModifiers()) || isFree, true);
         }
     }
 
