@@ -23,9 +23,11 @@ public final class BoundariesTest extends Drawings {
         onNoPoint();
         aboveStraightAndGreater();
         aboveLeastOfSeveral();
+        aboveAnyOfThem();
         aboveNoneOrNoPoint();
         belowStraightAndLess();
         belowLeastOfSeveral();
+        belowAnyOfThem();
         belowNoneOrNoPoint();
         piecesCount();
         groupsCount();
@@ -417,6 +419,23 @@ public final class BoundariesTest extends Drawings {
         Due.is("12: at the crossing, the next one", cross.above(at(10, 10)), 3);
     }
 
+    /** Promise 12, "Of the segments": whichever number it has. */
+    private static void aboveAnyOfThem() {
+        SegmentSweep s = levels(10);
+        for (int k = 0; k < 9; k++) {
+            Due.is("12: above level " + k, s.above(at(2, k)), k + 1);
+        }
+        for (int k = 9; k > 0; k--) {
+            SegmentSweep alone = levels(10);
+            for (int j = 1; j < 10; j++) {
+                if (j != k) {
+                    alone.remove(j);
+                }
+            }
+            Due.is("12: " + k + " alone is above", alone.above(at(4, 0)), k);
+        }
+    }
+
     /** Promise 12, "BAD when there is none or point is no such point" */
     private static void aboveNoneOrNoPoint() {
         Due.is("12: empty", new SegmentSweep().above(0), BAD);
@@ -472,6 +491,16 @@ public final class BoundariesTest extends Drawings {
         Due.is("13: a crossing of two", cross.below(at(10, 11)), 1);
         Due.is("13: beside the crossing", cross.below(at(11, 11)), 2);
         Due.is("13: at the crossing, the next one", cross.below(at(10, 10)), 3);
+    }
+
+    /** Promise 13, "Likewise below": whichever number it has. */
+    private static void belowAnyOfThem() {
+        SegmentSweep s = levels(10);
+        for (int k = 9; k >= 0; k--) {
+            Due.is("13: " + k + " is below", s.below(at(4, 20)), k);
+            Due.is("13: below level " + k, s.below(at(2, k)), k - 1);
+            s.remove(k);
+        }
     }
 
     /** Promise 13, "Likewise": BAD when there is none or point is no such point */

@@ -35,7 +35,7 @@ class Drawings {
         return s;
     }
 
-    /** Ten segments of which each two meet, each two in a point of their own: as many meeting points as there can be. */
+    /** Ten segments, each two of which meet in a point of their own: as many meeting points as there can be. */
     static SegmentSweep mostMeetings() {
         SegmentSweep s = new SegmentSweep();
         for (int k = 0; k < 10; k++) {

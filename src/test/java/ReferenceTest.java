@@ -20,6 +20,7 @@ public final class ReferenceTest {
         for (int run = 0; run < 600; run++) {
             buildThenAskAll(run);
         }
+        everyTwoSmallSegments();
         Due.end();
     }
 
@@ -96,6 +97,27 @@ public final class ReferenceTest {
         while (calls < MOST_CALLS) {
             ask(9 + below(3), point(), 0);
         }
+    }
+
+    /** Each way in which two segments can lie to each other, as far as the points 0 .. 3 by 0 .. 3 have it. */
+    private static void everyTwoSmallSegments() {
+        for (int ends = 0; ends < 65536; ends++) {
+            begin(ends);
+            ask(0, smallPoint(ends), smallPoint(ends >> 4));
+            ask(0, smallPoint(ends >> 8), smallPoint(ends >> 12));
+            for (int method : new int[] {2, 4, 12, 13, 14}) {
+                ask(method, 0, 0);
+            }
+            ask(3, 0, 1);
+            for (int axis = 0; axis < 2; axis++) {
+                ask(5, 0, axis);
+                ask(6, 0, axis);
+            }
+        }
+    }
+
+    private static int smallPoint(int bits) {
+        return (bits & 3) + 32 * (bits >> 2 & 3);
     }
 
     private static void ask(int method, int a, int b) {

@@ -79,7 +79,8 @@ final class RefusedCalls extends Drawings {
             }
         }
         for (int point : TOLD_POINTS) {
-            told.append(" . ").append(s.on(point)).append(' ').append(s.above(point)).append(' ').append(s.below(point));
+            told.append(" . ").append(s.on(point)).append(' ').append(s.above(point));
+            told.append(' ').append(s.below(point));
         }
         return told.toString();
     }

@@ -4,7 +4,8 @@ import java.util.Set;
 /** A test for each sentence of "What it is" and "Terms" that names a boundary; above each one stand its words. */
 public final class TermsTest extends Drawings {
     public static void main(String[] args) {
-        exactly();
+        exactlyMet();
+        exactlyNotMet();
         atMost512Calls();
         atMostTenSegments();
         numbersZeroToNine();
@@ -29,7 +30,7 @@ public final class TermsTest extends Drawings {
     }
 
     /** "Finds all points in which segments of the plane meet, exactly" */
-    private static void exactly() {
+    private static void exactlyMet() {
         SegmentSweep one = with(3, 6, 10, 4, 4, 3, 13, 15, 6, 2, 5, 12, 2, 17, 7, 1);
         Due.is("exactly: four in one point", one.meetings(), 1);
         Due.is("exactly: all four", one.through(0), 15);
@@ -40,8 +41,20 @@ public final class TermsTest extends Drawings {
         isAt("exactly: nearly one, 1", three, 1, 3537, 293, 2772, 293);
         isAt("exactly: nearly one, 2", three, 2, 1678, 139, 1315, 139);
         Due.is("exactly: the face between the three", three.faces(), 1);
-        SegmentSweep none = with(0, 0, 20, 19, 19, 18, 20, 0, 1, 1, 0, 20);
-        Due.is("exactly: nearly met", none.meetings(), 0);
+    }
+
+    /** "exactly": what nearly meets does not meet. */
+    private static void exactlyNotMet() {
+        // (1, 1) and (19, 18) are as near to the line from (0, 0) to (20, 19) as a point that is not on it can be.
+        int[][] near = {{1, 1, 0, 20}, {1, 1, 1, 20}, {1, 1, 2, 20}, {19, 18, 18, 0}, {19, 18, 19, 0}, {19, 18, 20, 0}};
+        for (int[] ends : near) {
+            int one = at(ends[0], ends[1]);
+            int other = at(ends[2], ends[3]);
+            SegmentSweep after = with(0, 0, 20, 19);
+            Due.is("exactly: nearly met", after.add(one, other) == 1 && !after.meet(0, 1), true);
+            SegmentSweep before = with(ends);
+            Due.is("exactly: nearly met by a later one", before.add(0, at(20, 19)) == 1 && !before.meet(0, 1), true);
+        }
     }
 
     /** "An object is used for at most 512 calls after it has been made" */
@@ -259,6 +272,8 @@ public final class TermsTest extends Drawings {
             s.add(at(second[0], second[1]), at(second[2], second[3]));
             isAt("bottom: turned " + turned, s, 0, 7600, 761, 7220, 761);
         }
+        isAt("bottom: the shortest", with(7, 7, 8, 7, 7, 7, 7, 8), 0, 7, 1, 7, 1);
+        isAt("bottom: the shortest, turned", with(7, 7, 7, 8, 7, 7, 8, 7), 0, 7, 1, 7, 1);
         isAt("bottom: upright and level", with(4, 20, 4, 0, 20, 6, 0, 6), 0, 4, 1, 6, 1);
         isAt("bottom: end to end", with(9, 3, 6, 2, 6, 2, 0, 0), 0, 6, 1, 2, 1);
     }
